@@ -10,6 +10,7 @@ public final class ChanceTest {
         countBoth();
         countRefused();
         year();
+        yearByReigns();
         yearRefused();
         Check.end();
     }
@@ -42,6 +43,15 @@ public final class ChanceTest {
         crown.put(7, 2);
         // C with G and H in it is worth 1; A with E in it 2: E goes, and 1 is left on each side.
         thumbDue(crown, 4);
+        for (int g = 0; g < 8; g++) {
+            crown.globe(g, 1, 1, 1, false);
+            crown.put(g, -1);
+        }
+        thumbDue(crown, NONE);
+        crown.put(7, 6);
+        thumbDue(crown, 6);
+        crown.put(5, 4);
+        thumbDue(crown, NONE);
         Check.due("thumb(2)", crown.thumb(2), OUTSIDE);
         Check.due("thumb(-1)", crown.thumb(-1), OUTSIDE);
     }
@@ -125,6 +135,48 @@ public final class ChanceTest {
         crown.year(9999, 99, 0);
         crown.year(0, 99, 1);
         Check.unchanged(crown, before, "year");
+    }
+
+    /** A year, and the same acts told on the pad one by one. */
+    private static void yearByReigns() {
+        for (int seed = 0; seed <= 9999; seed += 101) {
+            GlobeCrown crown = new GlobeCrown();
+            for (int g = 0; g < 8; g++) {
+                crown.globe(g, seed % 7 * (g % 4) * 5, 99 - g, (seed + g) % 10, g == 3);
+                crown.mood(g, g % 3, g + 1);
+            }
+            GlobeCrown same = new GlobeCrown();
+            int x = seed;
+            for (int g = 0; g < 8; g++) {
+                same.globe(g, crown.told(10 * g + 10), crown.told(10 * g + 11), crown.told(10 * g + 13), g == 3);
+                same.mood(g, g % 3, g + 1);
+            }
+            for (int m = 1; m <= 99; m++) {
+                x = (int) ((75L * x + 74) % 65537);
+                Check.write(same, drawn(x));
+                same.done();
+                String call = "year(" + seed + ", " + m + ", ";
+                Check.due(call + "0)", crown.year(seed, m, 0), same.told(4));
+                Check.due(call + "1)", crown.year(seed, m, 1), Integer.bitCount(same.told(2)));
+                Check.due(call + "2)", crown.year(seed, m, 2), Integer.bitCount(same.told(3)));
+            }
+        }
+    }
+
+    private static String drawn(int x) {
+        String globe = "ABCDEFGH".substring(x % 8, x % 8 + 1);
+        int z = x / 64;
+        switch (x / 8 % 8) {
+            case 0:
+            case 1:
+                return globe + "123456789".charAt(z % 9);
+            case 5:
+                return globe + ">" + "ABCDEFGH".charAt(z % 8);
+            case 7:
+                return ".";
+            default:
+                return globe + "  +=/ ^".charAt(x / 8 % 8);
+        }
     }
 
     private static void yearRefused() {

@@ -41,10 +41,26 @@ public final class CounselTest {
         justDue(crown, 138, 1, 2);
         justDue(crown, 3, NONE, NONE);
         justDue(crown, 137, NONE, NONE);
+        justOfAll();
         Check.due("just(-1, 0)", crown.just(-1, 0), OUTSIDE);
         Check.due("just(256, 0)", crown.just(256, 0), OUTSIDE);
         Check.due("just(0, 2)", crown.just(0, 2), OUTSIDE);
         Check.due("just(0, -1)", crown.just(0, -1), OUTSIDE);
+    }
+
+    private static void justOfAll() {
+        GlobeCrown crown = new GlobeCrown();
+        for (int g = 0; g < 8; g++) {
+            crown.globe(g, 1, 1, 1, false);
+        }
+        justDue(crown, 255, 8, 255);
+        for (int g = 1; g < 8; g++) {
+            crown.put(g, g - 1);
+        }
+        justDue(crown, 255, 1, 1);
+        justDue(crown, 128, 1, 128);
+        justDue(crown, 192, 1, 64);
+        justDue(crown, 127, NONE, NONE);
     }
 
     private static void fill() {
@@ -128,6 +144,9 @@ public final class CounselTest {
         changeDue(crown, 0, 1, 2, 3, 4, 5);
         crown.rank(5, 12345);
         changeDue(crown, 5, 1, 2, 3, 4, 0);
+        crown.rank(5, 543210);
+        changeDue(crown, 0, 1, 2, 3, 4, 5);
+        crown.rank(5, 12345);
         crown.rank(0, 123450);
         crown.rank(1, 234501);
         crown.rank(2, 345012);

@@ -251,6 +251,28 @@ public final class ReignsTest {
         Check.due("none is free", crown.then(5), NONE);
     }
 
+    private static void lookDeep() {
+        GlobeCrown crown = new GlobeCrown();
+        for (int g = 0; g < 8; g++) {
+            crown.globe(g, 9, 99, 1, false);
+            crown.put(g, g - 1);
+            crown.mood(g, 1, 5);
+            crown.fly(g, 99);
+        }
+        for (int g = 0; g < 8; g++) {
+            Check.due("look(" + g + ", 0)", crown.look(g, 0), 89 - 10 * g);
+            Check.due("look(" + g + ", 1)", crown.look(g, 1), g);
+        }
+        judged(crown, "A>H", 0, 4);
+        judged(crown, "H^A>H", NONE, NONE);
+        crown.fly(7, 0);
+        Check.reign(crown, "A1", 1);
+        Check.due("seven in one another are shaken", crown.told(82), 10);
+        Check.due("all pay", crown.told(4), 40);
+        crown.fly(7, 1);
+        Check.due("one flake is snow", crown.told(2), 255);
+    }
+
     private static void look() {
         GlobeCrown crown = Check.three();
         crown.put(0, 2);
@@ -268,6 +290,7 @@ public final class ReignsTest {
         crown.mood(2, 9, 0);
         Check.due("0 at least", crown.look(2, 0), 0);
         Check.due("0 at least", crown.look(1, 0), 0);
+        lookDeep();
         Check.due("look(3, 5)", crown.look(3, 5), UNKNOWN);
         Check.due("look(-1, 0)", crown.look(-1, 0), UNKNOWN);
         Check.due("look(0, 2)", crown.look(0, 2), OUTSIDE);
