@@ -110,15 +110,15 @@ public final class GlobeCrown {
         if (!isUpTo(what, 1)) {
             return OUTSIDE;
         }
-        if (pad.faultPlace() != NONE) {
+        reign.run(pad, realm.shelf);
+        if (reign.hasFault) {
             return NO;
         }
-        reign.run(pad, realm.shelf);
         return what == 0 ? reign.badAct : reign.reason;
     }
 
     public int done() {
-        if (!canBeDone()) {
+        if (!reign.run(pad, realm.shelf)) {
             return NO;
         }
         realm.shelf.takeFrom(reign.shelf);
@@ -133,7 +133,7 @@ public final class GlobeCrown {
         if (!isUpTo(what, 3)) {
             return OUTSIDE;
         }
-        if (!canBeDone()) {
+        if (!reign.run(pad, realm.shelf)) {
             return NO;
         }
         Shelf shelf = reign.shelf;
@@ -156,7 +156,7 @@ public final class GlobeCrown {
         if (!isUpTo(what, 5)) {
             return OUTSIDE;
         }
-        if (!canBeDone()) {
+        if (!reign.run(pad, realm.shelf)) {
             return NO;
         }
         switch (what) {
@@ -372,15 +372,6 @@ public final class GlobeCrown {
         }
     }
 
-    /** Leaves in the reign what is behind it, if there is neither a fault nor an act that can not be. */
-    private boolean canBeDone() {
-        if (pad.faultPlace() != NONE) {
-            return false;
-        }
-        reign.run(pad, realm.shelf);
-        return reign.badAct == NONE;
-    }
-
     private static boolean isUpTo(int number, int most) {
         return number >= 0 && number <= most;
     }
@@ -431,7 +422,7 @@ public final class GlobeCrown {
         }
 
         boolean has(int globe) {
-            return isGlobe(globe) && (there >> globe & 1) == 1;
+            return globe >= 0 && globe < GLOBES && (there >> globe & 1) == 1;
         }
 
         boolean isFree(int globe) {
@@ -575,9 +566,8 @@ public final class GlobeCrown {
         }
 
         private void shake(int globe, int strength) {
-            int shaken = bitsWithin(globe) & ~freeBits();
             for (int g = 0; g < GLOBES; g++) {
-                if ((shaken >> g & 1) == 1) {
+                if (isWithin(g, globe) && !isFree(g)) {
                     flying[g] = Math.min(flakes[g], flying[g] + 10 * strength);
                     taxes += content[g];
                 }
@@ -770,27 +760,30 @@ public final class GlobeCrown {
     /** A reign that is tried on a shelf of its own, so that nothing is done in fact. */
     private static final class Reign {
         final Shelf shelf = new Shelf();
+        boolean hasFault;
         int acts;
         int badAct;
         int reason;
         int freeAct;
         int freeGlobe;
 
-        /** Runs a pad without a fault up to the first act that can not be. */
-        void run(Pad pad, Shelf from) {
+        /** Whether there is neither a fault nor an act that can not be; then the shelf is as it is behind all acts. */
+        boolean run(Pad pad, Shelf from) {
             shelf.takeFrom(from);
+            hasFault = pad.faultPlace() != NONE;
             acts = 0;
             badAct = NONE;
             reason = NONE;
             freeAct = NONE;
             freeGlobe = NONE;
             int place = 0;
-            for (int step = 0; step < PAD_SIGNS && place < pad.size && badAct == NONE; step++) {
+            for (int step = 0; step < PAD_SIGNS && place < pad.size && !hasFault && badAct == NONE; step++) {
                 int first = pad.signAt(place);
                 int act = first == '.' ? first : pad.signAt(place + 1);
                 attempt(act, first - 'A', pad.signAt(place + 2) - 'A');
                 place += first == '.' ? 1 : act == '>' ? 3 : 2;
             }
+            return !hasFault && badAct == NONE;
         }
 
         private void attempt(int act, int globe, int other) {
