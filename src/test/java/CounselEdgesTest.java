@@ -335,6 +335,28 @@ public final class CounselEdgesTest {
         changeDue(ranks(12345, 12345, 12345, 12345, 12354, 12345), 0, 1, 2, 3, 5, 4);
     }
 
+    /** A ring of one goes first, and who pointed at it is in the next. */
+    private static void changeInTheNextRing() {
+        changeDue(ranks(120345, 102345, 12345, 301245, 401235, 501234), 2, 1, 0, 3, 4, 5);
+        changeDue(ranks(12345, 102345, 201345, 354012, 354012, 345012), 0, 1, 2, 3, 5, 4);
+    }
+
+    /** What was told ahead of other ranks is no matter. */
+    private static void changeBehindOtherRanks() {
+        GlobeCrown crown = ranks(123450, 234501, 345012, 450123, 501234, 12345);
+        changeDue(crown, 1, 2, 3, 4, 5, 0);
+        for (int one = 0; one < 6; one++) {
+            crown.rank(one, 543210);
+        }
+        changeDue(crown, 0, 1, 2, 3, 4, 5);
+        crown.rank(1, 54321);
+        changeDue(crown, 1, 0, 2, 3, 4, 5);
+        for (int one = 0; one < 6; one++) {
+            crown.rank(one, 12345);
+        }
+        changeDue(crown, 0, 1, 2, 3, 4, 5);
+    }
+
     /** Only who points into a ring without being in it waits. */
     private static void changeOfOneWhoWaits() {
         changeDue(ranks(120345, 12345, 12345, 201345, 453210, 453210), 1, 0, 2, 3, 4, 5);

@@ -106,6 +106,28 @@ public final class KeepingEdgesTest {
         }
     }
 
+    /** The sights themselves are kept, hours and numbers, though as many others came. */
+    private static void restoreSights() {
+        GlobeCrown crown = new GlobeCrown();
+        crown.seen(20, 6);
+        crown.seen(17, 0);
+        crown.image(0);
+        crown.forget();
+        crown.seen(21, 6);
+        crown.seen(17, 0);
+        crown.image(1);
+        crown.forget();
+        crown.seen(20, 10);
+        crown.seen(60, 0);
+        Check.due("now: who(-1)", crown.who(-1), 2);
+        Check.due("now: who(0)", crown.who(0), 120);
+        crown.restore(0);
+        Check.due("image 0: who(-1)", crown.who(-1), 1);
+        Check.due("image 0: who(0)", crown.who(0), 218);
+        crown.restore(1);
+        Check.due("image 1: who(0)", crown.who(0), 219);
+    }
+
     /** Each thing that is kept, by itself. */
     private static void restoreEach() {
         String[] names = {"globe", "fly", "mood", "put", "rank", "seen", "forget", "taxes", "hour", "drop"};

@@ -160,6 +160,54 @@ public final class ReignsEdgesTest {
         Check.due("C in D", crown.told(37), 3);
     }
 
+    /** The first globe stands in a later one that is dropped. */
+    private static void droppedWithTheFirstInIt() {
+        GlobeCrown crown = Check.three();
+        crown.put(1, -1);
+        crown.put(0, 1);
+        crown.put(1, 2);
+        Check.reign(crown, "B#", 1);
+        Check.due("A in C", crown.told(17), 2);
+    }
+
+    /** What told() tells otherwise behind an act, and nothing else. */
+    private static void changedJust(String text, int... due) {
+        GlobeCrown crown = Check.three();
+        crown.mood(0, 3, 8);
+        crown.fly(0, 1);
+        StringBuilder changed = new StringBuilder();
+        int[] before = new int[106];
+        for (int what = 1; what < 106; what++) {
+            before[what] = crown.told(what);
+        }
+        Check.write(crown, text);
+        crown.done();
+        for (int what = 1; what < 106; what++) {
+            changed.append(crown.told(what) == before[what] ? "" : what + ", ");
+        }
+        StringBuilder wanted = new StringBuilder();
+        for (int what : due) {
+            wanted.append(what).append(", ");
+        }
+        Check.due(text + " changed " + changed + "due is " + wanted, changed.compareTo(wanted) == 0 ? 0 : 1, 0);
+    }
+
+    /** Each act changes what is told of it, and nothing else. */
+    private static void actsChangeNothingElse() {
+        changedJust("");
+        changedJust("B1", 2, 4, 22);
+        changedJust("A1", 2, 4, 12, 22);
+        changedJust("A+", 10, 14);
+        changedJust("C+", 3, 30, 34);
+        changedJust("A=", 10);
+        changedJust("A/", 14);
+        changedJust("B>C", 27);
+        changedJust("B^", 27);
+        changedJust("C#", 1, 3, 30, 31, 32, 33, 34, 35, 36, 37);
+        changedJust("A#", 1, 2, 10, 11, 12, 13, 14, 15, 16, 17, 27);
+        changedJust(".", 2, 5, 10, 12, 16, 36);
+    }
+
     /** A free one can be filled, wiped, put and dropped. */
     private static void allButShakingOfAFreeOne() {
         GlobeCrown crown = Check.three();
@@ -219,6 +267,21 @@ public final class ReignsEdgesTest {
         toldBehind(mood(0, 9, 0, true), ".", 16, 9);
         toldBehind(mood(0, 1, 0, true), ".", 16, 1);
         toldBehind(mood(0, 0, 0, true), ".", 16, 0);
+    }
+
+    /** "but for MUSIC": each has it for itself. */
+    private static void hourWithMusicOfOne() {
+        for (int g = 0; g < 8; g++) {
+            GlobeCrown crown = new GlobeCrown();
+            for (int other = 0; other < 8; other++) {
+                crown.globe(other, 9, 9, 1, other == g);
+            }
+            Check.reign(crown, ".", 1);
+            for (int other = 0; other < 8; other++) {
+                Check.due("content of " + other, crown.told(10 * other + 16), other == g ? 5 : 4);
+                Check.due("music of " + other, crown.told(10 * other + 15), other == g ? 1 : 0);
+            }
+        }
     }
 
     /** "WATER is less by what it LEAKS, 0 at least". */
@@ -447,6 +510,18 @@ public final class ReignsEdgesTest {
         Check.refused("behind(3, 4)", Check::busy, crown -> crown.behind(3, 4), UNKNOWN);
         Check.refused("behind(0, 4) of A", () -> Check.withPad("A"), crown -> crown.behind(0, 4), OUTSIDE);
         Check.refused("behind(0, -1) of C1", () -> Check.withPad("C1"), crown -> crown.behind(0, -1), OUTSIDE);
+    }
+
+    /** "FLYING (what = 0), WATER (1), CLOUDY (2), CONTENT (3)": each is what it is. */
+    private static void behindEach() {
+        GlobeCrown crown = Check.full();
+        crown.globe(7, 50, 70, 3, false);
+        crown.mood(7, 2, 7);
+        Check.write(crown, "H3H+.");
+        int[] due = {23, 96, 3, 8};
+        for (int what = 0; what < 4; what++) {
+            Check.due("behind(7, " + what + ")", crown.behind(7, what), due[what]);
+        }
     }
 
     /** "BEHIND, likewise, not being DONE": of no act all is as it is now. */

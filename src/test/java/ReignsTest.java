@@ -18,44 +18,36 @@ public final class ReignsTest {
         Check.end();
     }
 
-    private static void judged(GlobeCrown crown, String text, int act, int why) {
-        Check.write(crown, text);
-        String before = Check.all(crown);
-        Check.due("judge(0) of " + text, crown.judge(0), act);
-        Check.due("judge(1) of " + text, crown.judge(1), why);
-        Check.unchanged(crown, before, "judge of " + text);
-    }
-
     private static void judgeReasons() {
         GlobeCrown crown = Check.three();
-        judged(crown, "", NONE, NONE);
-        judged(crown, "A1A2", NONE, NONE);
-        judged(crown, "D1", 0, 1);
-        judged(crown, "A1D>A", 1, 1);
-        judged(crown, "A>D", 0, 1);
-        judged(crown, "D>D", 0, 1);
-        judged(crown, "D#", 0, 1);
-        judged(crown, "..D/", 2, 1);
-        judged(crown, "C1", 0, 2);
-        judged(crown, "C=C1", NONE, NONE);
-        judged(crown, "A^", 0, 3);
-        judged(crown, "B^B^", 1, 3);
-        judged(crown, "B>A", 0, 3);
-        judged(crown, "B>CB>A", NONE, NONE);
-        judged(crown, "A>B", 0, 4);
-        judged(crown, "A>A", 0, 4);
-        judged(crown, "A>CC>B", 1, 4);
-        judged(crown, "B^A>B", NONE, NONE);
-        judged(crown, "B+", 0, 5);
-        judged(crown, "B=", 0, 5);
-        judged(crown, "A/", 0, 5);
-        judged(crown, "A+A/A/", 2, 5);
-        judged(crown, "A+A+", 1, 5);
-        judged(crown, "A+.A+A/", NONE, NONE);
-        judged(crown, "A#A1", 1, 1);
-        judged(crown, "A#B^", 1, 3);
-        judged(crown, "A#B>A", 1, 1);
-        judged(crown, "C1D1", 0, 2);
+        Check.judged(crown, "", NONE, NONE);
+        Check.judged(crown, "A1A2", NONE, NONE);
+        Check.judged(crown, "D1", 0, 1);
+        Check.judged(crown, "A1D>A", 1, 1);
+        Check.judged(crown, "A>D", 0, 1);
+        Check.judged(crown, "D>D", 0, 1);
+        Check.judged(crown, "D#", 0, 1);
+        Check.judged(crown, "..D/", 2, 1);
+        Check.judged(crown, "C1", 0, 2);
+        Check.judged(crown, "C=C1", NONE, NONE);
+        Check.judged(crown, "A^", 0, 3);
+        Check.judged(crown, "B^B^", 1, 3);
+        Check.judged(crown, "B>A", 0, 3);
+        Check.judged(crown, "B>CB>A", NONE, NONE);
+        Check.judged(crown, "A>B", 0, 4);
+        Check.judged(crown, "A>A", 0, 4);
+        Check.judged(crown, "A>CC>B", 1, 4);
+        Check.judged(crown, "B^A>B", NONE, NONE);
+        Check.judged(crown, "B+", 0, 5);
+        Check.judged(crown, "B=", 0, 5);
+        Check.judged(crown, "A/", 0, 5);
+        Check.judged(crown, "A+A/A/", 2, 5);
+        Check.judged(crown, "A+A+", 1, 5);
+        Check.judged(crown, "A+.A+A/", NONE, NONE);
+        Check.judged(crown, "A#A1", 1, 1);
+        Check.judged(crown, "A#B^", 1, 3);
+        Check.judged(crown, "A#B>A", 1, 1);
+        Check.judged(crown, "C1D1", 0, 2);
     }
 
     private static void judgeRefused() {
@@ -78,10 +70,10 @@ public final class ReignsTest {
         }
         Check.reign(crown, ".".repeat(39), 39);
         Check.due("the hour", crown.told(5), 999);
-        judged(crown, ".", 0, 6);
+        Check.judged(crown, ".", 0, 6);
         Check.due("done at 999", crown.done(), NO);
         crown.globe(0, 99, 99, 9, false);
-        judged(crown, "A1.A1", 1, 6);
+        Check.judged(crown, "A1.A1", 1, 6);
         Check.due("a year without hours", crown.year(3, 99, 2), 0);
     }
 
@@ -263,8 +255,8 @@ public final class ReignsTest {
             Check.due("look(" + g + ", 0)", crown.look(g, 0), 89 - 10 * g);
             Check.due("look(" + g + ", 1)", crown.look(g, 1), g);
         }
-        judged(crown, "A>H", 0, 4);
-        judged(crown, "H^A>H", NONE, NONE);
+        Check.judged(crown, "A>H", 0, 4);
+        Check.judged(crown, "H^A>H", NONE, NONE);
         crown.fly(7, 0);
         Check.reign(crown, "A1", 1);
         Check.due("seven in one another are shaken", crown.told(82), 10);

@@ -108,6 +108,12 @@ public final class SightsEdgesTest {
             Check.refused("who(" + i + ")", Check::busy, crown -> crown.who(i), NONE);
             Check.refused("who(" + i + ")", GlobeCrown::new, crown -> crown.who(i), NONE);
         }
+        GlobeCrown crown = new GlobeCrown();
+        Check.due("who(188) of all", crown.who(188), 920);
+        crown.seen(20, 6);
+        for (int i = 2; i < 190; i++) {
+            Check.due("who(" + i + ") of two", crown.who(i), NONE);
+        }
     }
 
     /** Nobody fits. */
@@ -198,6 +204,16 @@ public final class SightsEdgesTest {
         askDue(sights(20, 6), 8, 1);
         whoDue(sights(20, 10), 120, 810);
         askDue(sights(20, 10), 10, 1);
+    }
+
+    /** "(what = 0, 0 to 60)": the first hours. */
+    private static void askAtTheFirstHours() {
+        whoDue(sights(10, 20), 210, 900);
+        askDue(sights(10, 20), 0, 1);
+        whoDue(sights(11, 20), 211, 901);
+        askDue(sights(11, 20), 1, 1);
+        whoDue(sights(12, 20), 212, 902);
+        askDue(sights(12, 20), 2, 1);
     }
 
     /** Of all 189 by going through every hour and all that can be seen. */
